@@ -629,15 +629,18 @@ public final class OneReader {
     /** From here on all is in thought as it is, but for one change. */
     private void think(int change, int w, int v) {
         thought.takeFrom(book);
+        if (w < 0 || w >= MOST_ENTRIES) {
+            return;
+        }
         switch (change) {
             case START: thought.page = thought.firstOf(v); thought.bookmark = NONE; break;
             case MARK: thought.bookmark = v; break;
             case SKIP_TOO: thought.skips |= 1 << v; break;
             case SKIP_ALONE: thought.skips = v < 0 ? 0 : 1 << v; break;
             case LAW: thought.law = v; break;
-            case SEND: thought.changeEntry(thought.to, w, v); break;
-            case KIND: thought.changeEntry(thought.kind, w, v); break;
-            case MORE: thought.changeEntry(thought.more, w, v); break;
+            case SEND: thought.to[w] = v; thought.settle(); break;
+            case KIND: thought.kind[w] = v; thought.settle(); break;
+            case MORE: thought.more[w] = v; thought.settle(); break;
             default: break;
         }
     }
@@ -673,26 +676,19 @@ public final class OneReader {
 
     /** What the KINDS of ENTRIES do. */
     private static final class Kind {
-        private Kind() {
-        }
+        /** The KIND above each; -1: none. */
+        private static final int[] ABOVE = {-1, ENTRY, ENTRY, HABIT, FOREIGN, ENTRY};
 
-        /** The KIND above; -1: none. */
-        static int above(int kind) {
-            switch (kind) {
-                case HABIT: case FOREIGN: case TORN: return ENTRY;
-                case SPRING: return HABIT;
-                case HOUSEWORK: return FOREIGN;
-                default: return -1;
-            }
+        private Kind() {
         }
 
         static boolean isA(int kind, int other) {
             int up = kind;
-            for (int i = 0; i < KINDS && up >= 0; i++) {
+            for (int i = 0; i < KINDS && up >= 0 && up < KINDS; i++) {
                 if (up == other) {
                     return true;
                 }
-                up = above(up);
+                up = ABOVE[up];
             }
             return false;
         }
@@ -820,13 +816,6 @@ public final class OneReader {
             deeds[deedCount] = set;
             deedCount++;
             return true;
-        }
-
-        void changeEntry(int[] row, int w, int v) {
-            if (has(w) && w < row.length) {
-                row[w] = v;
-                settle();
-            }
         }
 
         /** What follows from the ENTRIES alone is reckoned once, not DAY by DAY. */
