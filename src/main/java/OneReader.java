@@ -485,17 +485,16 @@ public final class OneReader {
             think(NOTHING, 0, 0);
             above += passDays(daysSeeds / 100, OF_HELD, seed + i, odds) >> w & 1;
         }
-        int divisor = commonDivisor(above, seeds);
-        return (part == 0 ? above : seeds) / divisor;
+        return inLowestTerms(part == 0 ? above : seeds, above, seeds);
     }
 
-    private static int commonDivisor(int above, int seeds) {
-        for (int d = seeds; d > 1; d--) {
-            if (above % d == 0 && seeds % d == 0) {
-                return d;
+    private static int inLowestTerms(int asked, int above, int below) {
+        for (int d = below; d > 1; d--) {
+            if (above % d == 0 && below % d == 0) {
+                return asked / d;
             }
         }
-        return 1;
+        return asked;
     }
 
     public int image() {
@@ -677,7 +676,7 @@ public final class OneReader {
     /** What the KINDS of ENTRIES do. */
     private static final class Kind {
         /** The KIND above each; -1: none. */
-        private static final int[] ABOVE = {-1, ENTRY, ENTRY, HABIT, FOREIGN, ENTRY};
+        private static final int[] ABOVE = {-1, 0, 0, 1, 2, 0};
 
         private Kind() {
         }

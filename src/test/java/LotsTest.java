@@ -49,6 +49,12 @@ public final class LotsTest {
         y.put(2, 0, 10);
         Check.due("drawn(0, 3, 1004), where he began of 16 pages", y.drawn(0, 3, 1004), 13);
         Check.due("drawn(99999, 60, 1004), no pages", new OneReader().drawn(99999, 60, 1004), 0);
+        OneReader z = new OneReader();
+        z.image();
+        z.word(0, 60, -1);
+        z.run(5, 4);
+        z.back();
+        Check.due("drawn(0, 5, 1004), no pages any more", z.drawn(0, 5, 1004), 0);
     }
 
     private static void whats() {

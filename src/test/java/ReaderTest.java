@@ -173,6 +173,8 @@ public final class ReaderTest {
         fault("reads reads;", 6);
         fault("reads dayx;", 6);
         fault("reads da;", 6);
+        fault("reads dayz;", 6);
+        fault("reads zday;", 6);
         fault("reads Day;", 6);
         fault("reads 1\t;", 7);
         fault("reads $", 6);
@@ -203,6 +205,15 @@ public final class ReaderTest {
         fault("reads 1;holds 1;worth 1; 1", 25);
         fault("reads 1 ) 12345 $", 8);
         fault("reads 1 $ ) 12345", 8);
+        fault("reads 1;holds 1;worth 1" + "+1".repeat(68) + "1", 160);
+        fault("reads 1;holds 1;worth 1+" + "+1".repeat(68), 24);
+        fault("reads " + "1".repeat(154), 6);
+        fault("reads " + "a".repeat(154), 6);
+        OneReader x = new OneReader();
+        Check.due("a number too long", Check.text(x, "reads 12345"), -106);
+        Check.due("what stood there before is gone", Check.text(x, "reads 1234"), -110);
+        Check.due("a longer word", Check.text(x, "reads dayx"), -106);
+        Check.due("what stood there before is gone", Check.text(x, "reads day"), -109);
     }
 
     private static void depth() {
