@@ -276,7 +276,7 @@ public final class OneReader {
         }
         int w = best(START, 0, 0, n, 1, -1);
         if (what == 0) {
-            return w < 0 ? -1 : w;
+            return w;
         }
         return w < 0 ? 0 : worthIf(START, 0, w, n);
     }
@@ -288,7 +288,7 @@ public final class OneReader {
         int asItIs = worthIf(NOTHING, 0, 0, n);
         int w = best(MARK, 0, 0, n, 1, asItIs);
         if (what == 0) {
-            return w < 0 ? -1 : w;
+            return w;
         }
         return w < 0 ? asItIs : worthIf(MARK, 0, w, n);
     }
@@ -300,7 +300,7 @@ public final class OneReader {
         int asItIs = worthIf(NOTHING, 0, 0, n);
         int w = best(SKIP_TOO, 0, 0, n, -1, asItIs);
         if (what == 0) {
-            return w < 0 ? -1 : w;
+            return w;
         }
         return w < 0 ? asItIs : worthIf(SKIP_TOO, 0, w, n);
     }
