@@ -1075,7 +1075,7 @@ public final class OneReader {
             many = 0;
             int end = Math.min(size, tape.length);
             int at = 0;
-            while (at < end) {
+            for (int i = 0; i < MOST_BYTES && at < end; i++) {
                 int next = endOfToken(tape, at, end);
                 if (!isBlank(tape[at])) {
                     append(tokenOf(tape, at, next), at, numberOf(tape, at, next));

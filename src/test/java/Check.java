@@ -1,6 +1,7 @@
 /** Counts and prints the calls whose answer is not the one that is due. */
 final class Check {
-    private static int promise;
+    private static String heading = "";
+    private static int sentences;
     private static int asked;
     private static int wrong;
 
@@ -8,18 +9,44 @@ final class Check {
     }
 
     static void promise(int number) {
-        promise = number;
+        heading = "promise " + number;
+    }
+
+    /** A sentence of the document, told where it stands; what is looked at next is what it asks. */
+    static void sentence(String told) {
+        heading = told;
+        sentences++;
     }
 
     static void due(String call, long got, long want) {
         asked++;
         if (got != want) {
             wrong++;
-            System.out.println("promise " + promise + ": " + call + " answered " + got + ", due is " + want);
+            System.out.println(heading + ": " + call + " answered " + got + ", due is " + want);
         }
     }
 
+    /** Of two objects that must be alike, line by line, the first line that differs. */
+    static void same(String call, String got, String want) {
+        asked++;
+        if (got.equals(want)) {
+            return;
+        }
+        wrong++;
+        String[] is = got.split("\n");
+        String[] was = want.split("\n");
+        int i = 0;
+        while (i < is.length && i < was.length && is[i].equals(was[i])) {
+            i++;
+        }
+        System.out.println(heading + ": behind " + call + ": " + (i < is.length ? is[i] : "no more")
+            + ", ahead of it: " + (i < was.length ? was[i] : "no more"));
+    }
+
     static void end() {
+        if (sentences > 0) {
+            System.out.println(sentences + " sentences");
+        }
         System.out.println(asked + " answers looked at, " + wrong + " not as due");
         if (wrong != 0) {
             System.exit(1);
